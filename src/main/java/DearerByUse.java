@@ -367,6 +367,7 @@ public final class DearerByUse {
 
     public int writers(int sheet, int sort, int from, int n) {
         if (!within(sheet, SHEETS - 1) || !within(sort, INTS) || !within(n, MOST_WRITERS)) return BAD;
+        // What is missing is of no sort, so that it can't be of another one.
         if (sheets.sorts[sheet] == MISSING) return NOTHING;
         if (sheets.sorts[sheet] != sort) return UNLIKE;
         int[] row = sheets.rows[sheet];
@@ -576,11 +577,11 @@ public final class DearerByUse {
     /** THE TAPE, and what reads it as a TEXT: into a code that names operands ahead of what joins them. */
     private static final class Reader {
         static final int OR = 259, AND = 260, NOT = 261, NEGATE = 262;
-        static final int NAMES = 6;
+        static final int NAMES = 6, PARTS = 3;
         /** Three keys of parts, three of joining (from FIRST_KEY on), then the names; a blank ends each. */
         private static final String KNOWN = "adds worth may or and not used hour letter length purse many ";
         private static final int END = 0, NOWHERE = 1, NUMBER = 2, NAME = 3, FIRST_KEY = 256;
-        private static final int KEYS = 6, PARTS = 3, MOST_DIGITS = 4, MOST_OPEN = 5;
+        private static final int KEYS = 6, MOST_DIGITS = 4, MOST_OPEN = 5;
         private static final String SIGNS = "();+-*<=";
 
         final int[] tape = new int[TAPE];

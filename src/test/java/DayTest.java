@@ -8,6 +8,7 @@ public final class DayTest {
         likeWordsAndPurses();
         whoMay();
         aDayAges();
+        fiveWriters();
         wrongDays();
         when();
         whenOthersWrite();
@@ -58,6 +59,9 @@ public final class DayTest {
         days(x, 3, 0, -1, 0);
         x.set(0, 7, 40);
         Checks.due("SPREAD counts letters of no word", x.all(2), 40);
+        for (int letter = 0; letter < 8; letter++) x.set(0, letter, 10 + 3 * letter);
+        // a 10, used once more; b, c 13, 16 (c too dear now); h 31
+        Checks.due("SPREAD from the least on", x.all(2), 31 - 10);
     }
 
     private static void theirOrder() {
@@ -137,6 +141,25 @@ public final class DayTest {
         Checks.due("SPREAD", x.all(2), 2);
     }
 
+    private static void fiveWriters() {
+        DearerByUse x = new DearerByUse();
+        x.word(0, 1);
+        x.image();
+        for (int i = 0; i < 5; i++) x.writer(0, 10 - i, 99);
+        for (int i = 0; i < 5; i++) days(x, i, 5 - i, 0, 44 + i);
+        alls(x, 44 + 45 + 46 + 47 + 48, 5, 5, 15);
+        Checks.due("the last comes first", x.when(4, 1), 48);
+        Checks.due("not at rest", x.rest(), 0);
+        for (int i = 0; i < 5; i++) x.set(2, i, 0);
+        Checks.due("at rest, the first of them first", x.rest(), 1);
+        Checks.due("the last", x.day(4, 0), 5);
+        x.back();
+        alls(x, 0, 0, 0, 0);
+        x.writer(0, 1, 99);
+        alls(x, 48, 1, 1, 1);
+        Checks.due("at rest, alone", x.rest(), 1);
+    }
+
     private static void wrongDays() {
         DearerByUse x = new DearerByUse();
         Checks.due("day(0, 0)", x.day(0, 0), NO_SUCH);
@@ -173,6 +196,8 @@ public final class DayTest {
         Checks.due("the first of 7 and 8", x.when(0, 0), 7);
         Checks.due("GOOD then", x.when(0, 1), 89);
         Checks.due("it changes nothing", x.told(0, 2), 15);
+        Checks.ruled(x, "adds 9*(not hour=1);worth 90;may 1;");
+        Checks.due("hour 1", x.when(0, 0), 1);
         Checks.ruled(x, "adds 0;worth hour*30;may 1;");
         Checks.due("the last hour", x.when(0, 0), 23);
         Checks.due("GOOD then", x.when(0, 1), 689);

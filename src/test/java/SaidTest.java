@@ -2,6 +2,7 @@
 public final class SaidTest {
     public static void main(String[] args) {
         judging();
+        judgingFive();
         judgingByBytes();
         refusals();
         fits();
@@ -50,6 +51,17 @@ public final class SaidTest {
         Checks.due("what costs 0 was said", x.judge(3), -1);
         fill(x, 3, 2, 1, 3, -1);
         Checks.due("which is not -1", x.judge(3), 2);
+    }
+
+    private static void judgingFive() {
+        DearerByUse x = new DearerByUse();
+        x.word(0, 1);
+        for (int i = 0; i < 5; i++) x.writer(0, i, i == 4 ? 0 : 9);
+        fill(x, 0, 0, 1, 2, 3, 4, -1);
+        Checks.due("all as told", x.judge(0), -1);
+        fill(x, 0, 0, 1, 2, 3, 4, 0);
+        Checks.due("the last is otherwise", x.judge(0), 4);
+        Checks.due("no law's", x.whose(0), 0);
     }
 
     private static void judgingByBytes() {
@@ -177,6 +189,19 @@ public final class SaidTest {
             Checks.due("it changes nothing", x.told(letter, 0), 500);
         }
         Checks.due("no writer", new DearerByUse().drawn(3), 0);
+        DearerByUse x = new DearerByUse();
+        x.word(0, 1);
+        x.writer(0, 0, 9999);
+        Checks.ruled(x, "adds hour;worth 50-length;may hour<5;");
+        Checks.due("drawn(5)", x.drawn(5), 48 - usedBy(5, 0));
+        x.set(2, 0, 4);
+        Checks.due("at its hour of now", x.drawn(5), 44 - usedBy(5, 0));
+        x.rule(x.law(0, 9));
+        Checks.due("by the law of now", x.drawn(5), 36 - usedBy(5, 0));
+        x.set(2, 0, 5);
+        Checks.due("chance at its hour of now", x.chance(5, 4, 0), 0);
+        x.set(2, 0, 3);
+        Checks.due("chance at its hour of now", x.chance(5, 4, 0), 1);
     }
 
     private static void chance() {

@@ -4,6 +4,7 @@ public final class TextsTest {
         feeding();
         rightTexts();
         faults();
+        leftBehind();
         tooDeep();
         sixTexts();
         forcing();
@@ -136,11 +137,34 @@ public final class TextsTest {
         wrongE("1\r", 1);
         wrongE("\u00ff", 0);
         wrongE("used_", 4);
+        wrongE("usedz", 0);
+        wrongE("-x", 1);
+        wrongE("not x", 4);
+        wrongE("(x", 1);
+        wrongE("1+-x*2", 3);
         wrongE("USED", 0);
         // What comes first is told, though more is wrong behind it.
         wrongE("1 2 # 12345 (", 2);
         wrongE("12345 ((((((", 0);
         wrongE(") #", 0);
+    }
+
+    /** What an earlier, longer text left behind on the tape is not read. */
+    private static void leftBehind() {
+        String[][] texts = {{"addssss", "adds"}, {"adds used", "adds use"}, {"adds 12345", "adds 1234"}, {"adds 1;;", "adds 1"}};
+        int[] places = {4, 5, 9, 6};
+        for (int i = 0; i < texts.length; i++) {
+            DearerByUse x = new DearerByUse();
+            Checks.text(x, texts[i][0]);
+            Checks.due("text() of " + texts[i][1], Checks.text(x, texts[i][1]), -100 - places[i]);
+        }
+        String blanks = " ".repeat(150);
+        wrong(blanks + "adds  used", 160);
+        wrong(blanks + "adds  1234", 160);
+        wrong(blanks + "adds      ", 160);
+        wrong(blanks + "adds     -", 160);
+        wrong(blanks + "addsaddsad", 150);
+        wrong(blanks + "adds   use", 157);
     }
 
     private static void tooDeep() {

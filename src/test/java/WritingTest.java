@@ -171,6 +171,8 @@ public final class WritingTest {
         Checks.due("of thing 1", x.cheapest(1, 0, 0), 0);
         Checks.due("of thing 1", x.cheapest(1, 0, 1), 3);
         Checks.due("of thing 2", x.cheapest(2, 0, 1), -1);
+        Checks.due("the last thing at the last hour", x.cheapest(3, 23, 0), -1);
+        Checks.due("of thing 1 at the last hour", x.cheapest(1, 23, 1), 3);
         // Neither purse nor may matter here.
         x.writer(0, 0, 0);
         Checks.ruled(x, "adds letter*hour;worth 0;may 0;");

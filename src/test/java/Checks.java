@@ -1,9 +1,29 @@
 /** What the tests share: answers that are due, and texts fed byte by byte. */
 final class Checks {
+    private static final long PATIENCE = 300_000;
     private static int wrong = 0;
     private static int made = 0;
 
+    static {
+        mustEnd();
+    }
+
     private Checks() {
+    }
+
+    /** A call that fails to end is a wrong answer, too: a test that takes far too long fails by itself. */
+    private static void mustEnd() {
+        Thread watch = new Thread(() -> {
+            try {
+                Thread.sleep(PATIENCE);
+            } catch (InterruptedException e) {
+                return;
+            }
+            System.out.println("a call does not end");
+            Runtime.getRuntime().halt(1);
+        });
+        watch.setDaemon(true);
+        watch.start();
     }
 
     static void due(String call, long got, long want) {

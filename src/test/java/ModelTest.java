@@ -20,6 +20,7 @@ public final class ModelTest {
     public static void main(String[] args) {
         int runs = args.length > 0 ? Integer.parseInt(args[0]) : 150;
         long first = args.length > 1 ? Long.parseLong(args[1]) : 1;
+        Checks.due("some runs", runs > 0 ? 1 : 0, 1);
         long calls = 0;
         int wrong = 0;
         for (int run = 0; run < runs && wrong < 3; run++) {
@@ -27,9 +28,10 @@ public final class ModelTest {
             test.go();
             calls += test.calls;
             if (test.wrong) wrong++;
+            Checks.due("run " + (first + run), test.wrong ? 1 : 0, 0);
         }
-        System.out.println("ModelTest: " + calls + " answers in " + runs + " runs, " + wrong + " runs wrong");
-        if (wrong != 0) System.exit(1);
+        System.out.println("ModelTest: " + calls + " answers in " + runs + " runs");
+        Checks.end("ModelTest");
     }
 
     private void go() {
